@@ -705,8 +705,9 @@ public final class BronzeKing {
                 if (end > WIDE) {
                     return faultAt(6, signAt);
                 }
-                Arrays.fill(draft, row * WIDE + across, row * WIDE + end, kind);
-                across = end;
+                for (; across < end; across++) {
+                    draft[row * WIDE + across] = kind;
+                }
                 many = 0;
             }
             if (across == 0 || many > 0) {
