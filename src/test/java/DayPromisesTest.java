@@ -98,6 +98,12 @@ public final class DayPromisesTest {
         Due.is("any s will do", any.days(1), 2);
         Due.is("walk(9)", any.walk(9), 0);
         Due.is("walk(10)", any.walk(10), 1);
+        BronzeKing ahead = Due.king("", "s(m>0);e1(1=1);c1(h=0)");
+        Due.is("an s ahead of the others", ahead.days(1), 2);
+        Due.is("HOUR 0", ahead.walk(100), 0);
+        Due.is("he came in HOUR 0", ahead.tried(2, 1), 2);
+        Due.is("WEAR of THE SQUARE", ahead.tried(2, 100), 3);
+        Due.is("the first PLACE", ahead.worn(), 0);
         BronzeKing where = Due.king("", "c1(1=1);e1(y=0);s(x=3|m=59)");
         Due.is("in s it is where he is", where.days(1), 6);
         Due.is("how far", where.walk(103), 3);
@@ -330,6 +336,7 @@ public final class DayPromisesTest {
         Due.notes(king, "3:6-");
         Due.is("nothing left", king.sure(1), -2);
         Due.is("all alike", Due.king("", "c1(1=1)").sure(100), 24);
+        Due.is("all but a little", Due.king("", "c99(h<6);c1(h=9)").sure(100), 7);
     }
 
     private static void walk() {

@@ -160,7 +160,7 @@ public final class ModelTest {
                 break;
             default:
                 int lovers = below(20) == 0 ? about(5) : 2 + below(3);
-                feedBytes(4, 97);
+                feed(new byte[] {(byte) openPlace(), (byte) openPlace(), (byte) openPlace(), (byte) openPlace()});
                 due("lovers(" + lovers + ", " + what + ")", king.lovers(lovers, what), model.lovers(lovers, what));
                 break;
         }
@@ -175,6 +175,14 @@ public final class ModelTest {
         due("benches(" + bench + ", " + which + ")", king.benches(bench, which), model.benches(bench, which));
         due("far(" + minutes + ")", king.far(minutes), model.far(minutes));
         due("worn()", king.worn(), model.worn());
+    }
+
+    private int openPlace() {
+        int place = about(95);
+        for (int i = 0; i < 20 && below(20) > 0 && model.placeIs(place % 12, place / 12, 0) != 2; i++) {
+            place = about(95);
+        }
+        return place;
     }
 
     private void askPlaces() {
@@ -192,8 +200,8 @@ public final class ModelTest {
         int thing = about(130);
         due("count(" + thing + ")", king.count(thing), model.count(thing));
         if (below(6) == 0) {
-            int from = about(95);
-            int to = about(95);
+            int from = openPlace();
+            int to = openPlace();
             due("chase(" + from + ", " + to + ")", king.chase(from, to), model.chase(from, to));
         }
     }

@@ -1,3 +1,6 @@
+import java.util.ArrayList;
+import java.util.Collections;
+import java.util.List;
 import java.util.Random;
 
 /** Maps, notes and laws at random, right ones and such as have been spoilt. */
@@ -35,6 +38,31 @@ final class Texts {
     }
 
     String map() {
+        return below(3) == 0 ? maze() : anyMap();
+    }
+
+    /** Streets between the PLACES of even X and Y, few rings among them. */
+    private String maze() {
+        char[] signs = "############/".repeat(8).toCharArray();
+        boolean[] joined = new boolean[24];
+        joined[below(24)] = true;
+        for (int i = 0; i < 400; i++) {
+            int x = below(6);
+            int y = below(4);
+            int x2 = below(2) == 0 ? x + 1 : x;
+            int y2 = x2 == x ? y + 1 : y;
+            if (x2 < 6 && y2 < 4 && (joined[6 * y + x] != joined[6 * y2 + x2] || below(150) == 0)) {
+                joined[6 * y + x] = true;
+                joined[6 * y2 + x2] = true;
+                signs[26 * y + 2 * x] = '.';
+                signs[26 * y2 + 2 * x2] = '.';
+                signs[13 * (y + y2) + x + x2] = below(25) == 0 ? '+' : '.';
+            }
+        }
+        return new String(signs, 0, 103);
+    }
+
+    private String anyMap() {
         StringBuilder s = new StringBuilder();
         int walls = below(4);
         int rows = below(10) == 0 ? 9 : below(3) == 0 ? 1 + below(8) : 8;
@@ -67,7 +95,7 @@ final class Texts {
 
     String law() {
         for (int i = 0; i < 1000; i++) {
-            String text = below(8) == 0 ? manyRules() : rules(1 + below(6));
+            String text = below(8) == 0 ? manyRules() : below(8) == 0 ? deepRule() : rules(1 + below(6));
             text = below(5) == 0 ? spoilt(text, "cesh0129+-*/%<>=&|!()[];nbvx") : text;
             if (text.length() <= 240) {
                 return text;
@@ -86,19 +114,32 @@ final class Texts {
         return s.toString();
     }
 
-    private String rules(int rules) {
-        StringBuilder s = new StringBuilder();
-        for (int i = 0; i < rules; i++) {
-            s.append(i == 0 ? "" : ";");
-            // Without the first two he would seldom come down and go.
-            char letter = i == 0 ? 'c' : i == 1 ? 'e' : oneOf("cees");
-            s.append(letter);
-            if (letter != 's') {
-                s.append(sum(letter == 'c' ? "hd" : "hdmxywnbv", 2));
-            }
-            s.append('(').append(below(3) == 0 ? "0=0" : claim(letter == 'c' ? "hd" : "hdmxywnbv", 3)).append(')');
+    /** Some six of ( [ ! in one another. */
+    private String deepRule() {
+        int value = 4 + below(4);
+        int round = below(5);
+        int angled = below(3);
+        String inner = "[".repeat(angled) + "h" + "]".repeat(angled) + "<9";
+        for (int i = 0; i < round + below(2); i++) {
+            inner = below(2) == 0 ? "!" + inner : "(" + inner + (below(3) == 0 ? "|" + inner : "") + ")";
         }
-        return s.toString();
+        return "c" + "[".repeat(value) + "d" + "]".repeat(value) + "(" + inner + ");" + rules(1);
+    }
+
+    private String rules(int rules) {
+        List<String> all = new ArrayList<>();
+        for (int i = 0; i < rules; i++) {
+            // Without the first two he would seldom come down and go.
+            all.add(rule(i == 0 ? 'c' : i == 1 ? 'e' : oneOf("cees")));
+        }
+        Collections.shuffle(all, random);
+        return String.join(";", all);
+    }
+
+    private String rule(char letter) {
+        String letters = letter == 'c' ? "hd" : "hdmxywnbv";
+        String value = letter == 's' ? "" : sum(letters, 2);
+        return letter + value + "(" + (below(3) == 0 ? "0=0" : claim(letters, 3)) + ")";
     }
 
     private String claim(String letters, int depth) {

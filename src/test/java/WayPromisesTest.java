@@ -199,7 +199,7 @@ public final class WayPromisesTest {
         lovers(king, 5, 18, 0, 11, 11, 4);
         BronzeKing walls = Due.king(".#./.#./3./9#3#", "");
         lovers(walls, 25, 6, 0, 2);
-        lovers(walls, -2, -2, 0, 36 + 12);
+        lovers(walls, -2, -2, 0, 48);
         lovers(walls, -3, -3, 0, 1);
         lovers(walls, -3, -3, 96, 0);
         lovers(walls, -3, -3, 0, 255);
@@ -232,6 +232,7 @@ public final class WayPromisesTest {
         Due.is("nine PLACES with WEAR", king.count(7), 16);
         benches(king, 1, 2, -2, 5);
         benches(king, 2, 1, 6, 9);
+        king.square(0, 0);
         Due.map(king, "..+");
         benches(king, 1, 5, -2, 5);
         benches(king, 2, 0, 5, 7);
@@ -280,5 +281,8 @@ public final class WayPromisesTest {
         street.square(0, 2);
         streets(street, 2, 4, 0, 0, 10, 3, 25);
         streets(snake(), 1, 2, 0, 0, 53, 51, 2);
+        BronzeKing first = Due.king("2.9##/.#9##/9#3#" + FIVE_WALLS, "");
+        first.square(1, 0);
+        streets(first, 1, 2, 0, 0, 3, 1, 0);
     }
 }
