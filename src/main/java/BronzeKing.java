@@ -653,7 +653,7 @@ public final class BronzeKing {
                 int here = queue[i];
                 for (int way = 0; way < WAYS; way++) {
                     int next = beside(here, way);
-                    if (kindOf(next) >= floor && next >= 0 && steps[next] == NO_WAY && size < PLACES) {
+                    if (next >= 0 && kindOf(next) >= floor && steps[next] == NO_WAY && size < PLACES) {
                         steps[next] = steps[here] + 1;
                         queue[size] = next;
                         size++;
