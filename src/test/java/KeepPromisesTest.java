@@ -12,7 +12,6 @@ public final class KeepPromisesTest {
         check();
         wrongChecks();
         count();
-        refusedCallsChangeNothing();
         Due.end();
     }
 
@@ -170,42 +169,5 @@ public final class KeepPromisesTest {
         for (int what : new int[] {-1, 9, 10, 20, 99, 124, Integer.MAX_VALUE, Integer.MIN_VALUE}) {
             Due.is("count(" + what + ")", king.count(what), -1);
         }
-    }
-
-    private static String all(BronzeKing king) {
-        StringBuilder s = new StringBuilder();
-        for (int what = 0; what < 124; what++) {
-            s.append(king.count(what)).append(' ');
-        }
-        for (int place = 0; place < 96; place++) {
-            for (int what = 0; what < 5; what++) {
-                s.append(king.placeIs(place % 12, place / 12, what)).append(' ');
-            }
-        }
-        for (int what = 0; what < 104; what++) {
-            s.append(king.walk(what)).append(' ');
-        }
-        return s.toString();
-    }
-
-    private static void refusedCallsChangeNothing() {
-        BronzeKing king = Due.king(".#+", "c1(1=1);e1(1=1)");
-        king.door(9, 4, 4);
-        king.days(2);
-        king.feed(0x2E2E2E2E, 0, 0, 0, 0);
-        String before = all(king);
-        king.square(12, 0);
-        king.door(0, 0, 0);
-        king.law(21);
-        king.map(21);
-        king.notes(21);
-        king.days(31);
-        king.tried(5, 0);
-        king.lovers(2, 2);
-        king.pigeons(0);
-        king.seed(-1);
-        king.undo();
-        king.check(8, 1);
-        Due.is("all is as before", all(king).equals(before), true);
     }
 }

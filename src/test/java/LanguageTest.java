@@ -25,6 +25,8 @@ public final class LanguageTest {
 
     public static void main(String[] args) throws IOException {
         face();
+        privateNames();
+        staticFields();
         members();
         source(Files.readString(Path.of("src/main/java/BronzeKing.java")));
         Due.end();
@@ -53,6 +55,30 @@ public final class LanguageTest {
             Due.is(field + " is private", Modifier.isPrivate(field.getModifiers()), !isNone);
         }
         Due.is("the class is final", Modifier.isFinal(BronzeKing.class.getModifiers()), true);
+    }
+
+    /** Rule 1: "No private method bears the name of a public one." */
+    private static void privateNames() {
+        TreeSet<String> names = new TreeSet<>();
+        for (Method method : BronzeKing.class.getDeclaredMethods()) {
+            Due.is(method + " is the only one of its name", names.add(method.getName()), true);
+        }
+    }
+
+    /** Rule 5: static fields are final, of few types. */
+    private static void staticFields() {
+        List<Class<?>> types = List.of(int.class, long.class, boolean.class, char.class, String.class, int[].class,
+            long[].class, char[].class, byte[].class);
+        List<Class<?>> classes = new ArrayList<>(List.of(BronzeKing.class.getDeclaredClasses()));
+        classes.add(BronzeKing.class);
+        for (Class<?> type : classes) {
+            for (Field field : type.getDeclaredFields()) {
+                if (Modifier.isStatic(field.getModifiers())) {
+                    Due.is(field + " is final", Modifier.isFinal(field.getModifiers()), true);
+                    Due.is(field + " is of a type that may be", types.contains(field.getType()), true);
+                }
+            }
+        }
     }
 
     private static void members() {
@@ -98,7 +124,23 @@ public final class LanguageTest {
                 Due.is("a sign at " + i, text.charAt(i), ' ');
             }
         }
+        library(bare);
         shortMethods(text);
+    }
+
+    /** Rule 4: of the library only what stands there; rule 9: no loop without an end in its own lines. */
+    private static void library(String bare) {
+        List<String> calls = List.of("Math.max", "Math.min", "Math.abs", "Math.floorMod", "Math.floorDiv",
+            "Integer.bitCount", "Long.bitCount", "Arrays.fill", "Arrays.copyOf", "Arrays.copyOfRange",
+            "System.arraycopy", "Long.MAX_VALUE");
+        Matcher used = Pattern.compile("\\b(Math|Integer|Long|Arrays|System|Character|Objects)\\.\\w+").matcher(bare);
+        while (used.find()) {
+            Due.is(used.group() + " is in the library", calls.contains(used.group()), true);
+        }
+        for (String endless : new String[] {"while \\(true\\)", "for \\([^;)]*;\\s*;"}) {
+            Due.is("the source has " + endless, Pattern.compile(endless).matcher(bare).find(), false);
+        }
+        Due.is("no exception but by its words", Pattern.compile("Exception|Error\\b").matcher(bare).find(), false);
     }
 
     private static void shortMethods(String text) {

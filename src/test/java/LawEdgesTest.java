@@ -119,7 +119,7 @@ public final class LawEdgesTest {
         Due.is("99999 is more than 99998", Due.king("", "c5(99999>99998)").count(100), 5);
     }
 
-    /** Each byte behind a text: goOn, then the end is the FAULT; others by pairs (signs, answer); else FAULT 1 at it. */
+    /** Each byte behind a text: of goOn the end is the FAULT; others by pairs (signs, answer); else it is FAULT 1. */
     private static void behind(String ahead, String goOn, String... others) {
         for (int b = 0; b < 256; b++) {
             int due = Edges.fault(1, ahead.length() + (Edges.has(goOn, b) ? 1 : 0));
@@ -306,6 +306,12 @@ public final class LawEdgesTest {
         Due.is("no s", king.days(1), 60);
         Due.is("one of s alone", Due.law(king, "s(1=1)"), 1);
         Due.is("no c", king.count(8), 0);
+        for (int more = 0; more < 30; more++) {
+            Due.law(king, "c1" + "+1".repeat(50) + "(1" + "+1".repeat(50) + "=51)");
+            String shorter = "c7" + "-0".repeat(more) + "(2" + "*1".repeat(more / 2) + "=2)";
+            Due.is("a shorter one", Due.law(king, shorter), 1);
+            Due.is("nothing of the longer one is left", king.count(8), 168);
+        }
     }
 
     /** Law upon law, right ones and others, as many as there may be calls. */

@@ -59,7 +59,7 @@ public final class ReckonEdgesTest {
         return king.walk(0);
     }
 
-    /** "how he likes a PLACE (0 to 9999)"; "the greatest e above 0 (of like ones the first of up, right, down, left)". */
+    /** "how he likes a PLACE (0 to 9999)"; "the greatest e above 0 (of like ones the first ..)". */
     private static void boundsOfE() {
         Due.is("9998 and 9999", firstStep("9998", "9999"), 12);
         Due.is("9999 and 9998", firstStep("9999", "9998"), 1);

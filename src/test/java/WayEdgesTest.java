@@ -230,21 +230,25 @@ public final class WayEdgesTest {
         row(king, 60, 4, 1, 2);
     }
 
+    private static BronzeKing twoPlaces() {
+        return Edges.kingAt(0, Edges.only('#', 0, 1), "");
+    }
+
     /** "barred .. what 0 .., 1 ..; NONE: no such ones". */
     private static void oldAndBarredNumbers() {
-        BronzeKing king = Edges.kingAt(0, Edges.only('#', 0, 1), "");
         for (int place = 0; place < 96; place++) {
             int x = place % 12;
             int y = place / 12;
+            BronzeKing king = twoPlaces();
             Due.is("old", king.old(x, y), place < 2 ? place : -2);
             for (int what = -3; what <= 4; what++) {
                 boolean isTaken = what == 0 || what == 1;
                 Due.is("barred(.., " + what + ")", king.barred(x, y, what), !isTaken ? -1 : place < 2 ? 0 : -2);
             }
         }
-        Edges.range("barred(1, 0, what)", 0, 1, -1, what -> king.barred(1, 0, what));
-        Edges.range("barred(5, 5, what), no way", 0, 1, -1, what -> king.barred(5, 5, what));
-        Edges.range("barred(12, 0, what)", 1, 0, -1, what -> king.barred(12, 0, what));
+        Edges.range("barred(1, 0, what)", 0, 1, -1, what -> twoPlaces().barred(1, 0, what));
+        Edges.range("barred(5, 5, what), no way", 0, 1, -1, what -> twoPlaces().barred(5, 5, what));
+        Edges.range("barred(12, 0, what)", 1, 0, -1, what -> twoPlaces().barred(12, 0, what));
     }
 
     /** "OLD: the STEPS from THE SQUARE to a PLACE as if no NEW walls were"; "-2: no way". */
