@@ -21,6 +21,11 @@ public final class ReckonEdgesTest {
         lettersInCBehindADay();
         dayModuloSeven();
         hoursFromNaughtTo23();
+        lettersOfAPlace();
+        stepsToDoorNine();
+        doorsCalledAt();
+        everyMinute();
+        theMostWear();
         anySWillDo();
         noSAtAll();
         Due.end();
@@ -251,6 +256,78 @@ public final class ReckonEdgesTest {
         Due.is("none above 23", Due.king("", "c1(h>23)").count(8), 0);
         Due.is("up to 4", Due.king("", "c1(h<5)").count(8), 5);
         Due.is("from 19 on", Due.king("", "c1(h>18)").count(8), 5);
+    }
+
+    /** "x, y the PLACE (to which; in s where he is)", from 0, 0 to 11, 7; "b how many to THE SQUARE". */
+    private static void lettersOfAPlace() {
+        int[][] pairs = {{94, 95}, {83, 95}, {1, 0}, {12, 0}, {10, 11}, {85, 84}, {40, 41}};
+        for (int[] pair : pairs) {
+            int x = pair[1] % 12;
+            int y = pair[1] / 12;
+            String there = "(x=" + x + "&y=" + y + "&b=1&w=0)";
+            BronzeKing king = Edges.kingAt(pair[0], "", "c1(1=1);e1" + there + ";s(b=1&m>1)");
+            Due.is("there and back", king.days(1), 2);
+            Due.is("to " + pair[1], king.walk(0), pair[1]);
+            String here = "x=" + pair[0] % 12 + "&y=" + pair[0] / 12 + "&b=0&w=0";
+            Due.is("in s where he is", Edges.kingAt(pair[0], "", "c1(1=1);e1(1=1);s(" + here + ")").days(1), 0);
+        }
+    }
+
+    /** "n how many STEPS it is from there to DOOR 9 (99: no way, not told)". */
+    private static void stepsToDoorNine() {
+        String law = "c1(1=1);e1(n=99);s(m>0)";
+        BronzeKing notTold = Due.king("", law);
+        notTold.door(8, 1, 0);
+        Due.is("not told", notTold.days(1), 2);
+        BronzeKing noWay = Due.king(Edges.only('#', 0, 1, 95), law);
+        noWay.door(9, 11, 7);
+        Due.is("no way", noWay.days(1), 2);
+        BronzeKing onAWall = Due.king(Edges.only('+', 0, 1), law);
+        onAWall.door(9, 2, 0);
+        Due.is("on a wall", onAWall.days(1), 2);
+        BronzeKing there = Due.king("", "c1(1=1);e1(n=0);s(n=0|m=59)");
+        there.door(9, 0, 1);
+        Due.is("one STEP off, and there", there.days(1), 2);
+        Due.is("there he stands", there.walk(57), 12);
+        there.square(11, 7);
+        Due.law(there, "c1(1=1);e1(n=16&x=10);s(n=16|m=59)");
+        Due.is("from the far corner", there.days(1), 2);
+    }
+
+    /** "v how many DOORS he has called at on THE DAY", 0 to 9. */
+    private static void doorsCalledAt() {
+        for (int many = 0; many <= 9; many++) {
+            BronzeKing king = Due.king("", "c1(1=1);e1(v=0);s(v=" + many + "&m>0)");
+            for (int k = 1; k <= many; k++) {
+                king.door(k, 1, 0);
+            }
+            Due.is("v of " + many, king.days(2), 4);
+            Due.is("there he stood", king.walk(57), 1);
+        }
+    }
+
+    /** "m the MINUTE (0 to 59)". */
+    private static void everyMinute() {
+        for (int minute = 0; minute < 59; minute++) {
+            BronzeKing king = Due.king("", "c1(1=1);e1(m=" + minute + ")");
+            Due.is("one STEP in MINUTE " + minute + " and one back", king.days(1), 2);
+            Due.is("ahead of it", minute == 0 ? 0 : king.walk(minute - 1), 0);
+            Due.is("in it", king.walk(minute), 1);
+        }
+        Due.is("no MINUTE 60", Due.king("", "c1(1=1);e1(m>59|m<0)").days(1), 0);
+    }
+
+    /** "w its WEAR", 9999 at most. */
+    private static void theMostWear() {
+        BronzeKing king = Due.king(Edges.only('#', 0, 1), "c1(1=1);e1(1=1)");
+        Edges.letGo(king, 333);
+        Due.law(king, "c1(1=1);e1(w>9989&w<9999)");
+        Due.is("nine times there and back", king.days(1), 18);
+        Due.is("as much as there may be", king.count(7), 2 * 9999);
+        Due.law(king, "c1(1=1);e1(w=9999);s(w<9999)");
+        Due.is("a DAY on it", king.days(1), 60);
+        Due.law(king, "c1(1=1);e1(w>9999)");
+        Due.is("none above it", king.days(1), 0);
     }
 
     /** "s he stands still in a MINUTE (any will do ..)". */
