@@ -15,7 +15,7 @@ public final class RoomTest {
         long before = bean.getCurrentThreadAllocatedBytes();
         long empty = bean.getCurrentThreadAllocatedBytes() - before;
         before = bean.getCurrentThreadAllocatedBytes();
-        for (int i = 0; i < 5; i++) {
+        for (int i = 0; i < 3; i++) {
             callAll(king);
         }
         long byCalls = bean.getCurrentThreadAllocatedBytes() - before - empty;
