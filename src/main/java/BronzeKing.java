@@ -1443,6 +1443,8 @@ public final class BronzeKing {
         private static final int STOPS = 10;
         // STEPS times this and the row of DOORS as a number of up to nine digits: less is better.
         private static final long STEP = 1000000000L;
+        // Worse than any row, even one without a way between any two of its stops.
+        private static final long WORST = 1000000 * STEP;
         private static final int[] TENS = {1, 10, 100, 1000, 10000, 100000, 1000000, 10000000, 100000000};
 
         private final Town town;
@@ -1523,7 +1525,7 @@ public final class BronzeKing {
             if (doors == 0 || doors > DOORS) {
                 return between[from * STOPS] * STEP;
             }
-            long answer = Long.MAX_VALUE;
+            long answer = WORST;
             for (int to = 1; to < STOPS; to++) {
                 int bit = 1 << (to - 1);
                 if ((set & bit) != 0) {
